@@ -1,0 +1,326 @@
+/** Promise 15: groups, aggregates, HAVING, and what comes first in a grouped query. */
+public final class GroupTest {
+    private static final Due due = new Due("GroupTest");
+    private static final long TRILLION = 1000000000000L;
+
+    public static void main(String[] args) {
+        aggregatesOfAll();
+        aggregatesOfNone();
+        aggregatesOfNulls();
+        aggregatesOfDistinct();
+        averagesAreCut();
+        groupsInOrderOfFirstRows();
+        severalGroups();
+        groupsOfNoRows();
+        partsLikeGroups();
+        having();
+        havingMakesOneGroup();
+        countLooksAtNothing();
+        sumsOnTheirWay();
+        sumsOfDistinct();
+        whatIsOfAggregatesComesRowByRow();
+        aggregatesByTheirNumbers();
+        unusedAggregates();
+        sumsComeBehindAllRows();
+        manyGroups();
+        due.end();
+    }
+
+    private static final long NULL = Long.MIN_VALUE;
+
+    // A table of pairs; expressions 0 and 1 are its columns.
+    private static QueryRunner pairs(long... values) {
+        QueryRunner x = new QueryRunner();
+        x.table(2);
+        for (int i = 0; i + 1 < values.length; i += 2) {
+            int nulls = (values[i] == NULL ? 1 : 0) + (values[i + 1] == NULL ? 2 : 0);
+            x.insert(0, values[i], values[i + 1], 0, 0, nulls);
+        }
+        x.source(0, 0, -1);
+        x.column(0, 0);
+        x.column(0, 1);
+        return x;
+    }
+
+    private static void allAggregates(QueryRunner x, int e, boolean distinct) {
+        for (int kind = 0; kind <= 5; kind++) {
+            x.item(x.aggregate(kind, e, distinct));
+        }
+    }
+
+    private static void aggregatesOfAll() {
+        QueryRunner x = pairs(1, 4, 2, NULL, 3, -2, 4, 4, 5, 9);
+        allAggregates(x, 1, false);
+        due.answers("all rows are one", x, "5 4 15 -2 9 3");
+        x.condition(0, x.op(8, 0, x.constant(3, false)));
+        due.answers("of those that WHERE leaves", x, "3 2 2 -2 4 1");
+    }
+
+    private static void aggregatesOfNone() {
+        QueryRunner x = pairs();
+        allAggregates(x, 1, false);
+        due.answers("of no rows", x, "0 0 - - - -");
+        QueryRunner y = pairs(1, 2);
+        allAggregates(y, 1, true);
+        y.condition(0, y.op(6, 0, 0));
+        due.answers("of no rows behind WHERE", y, "0 0 - - - -");
+    }
+
+    private static void aggregatesOfNulls() {
+        QueryRunner x = pairs(1, NULL, 2, NULL);
+        allAggregates(x, 1, true);
+        due.answers("of NULLs alone", x, "2 0 - - - -");
+    }
+
+    private static void aggregatesOfDistinct() {
+        QueryRunner x = pairs(1, 4, 2, NULL, 3, -2, 4, 4, 5, 9, 6, 4, 7, NULL, 8, 9);
+        allAggregates(x, 1, true);
+        due.answers("equal values once", x, "8 3 11 -2 9 3");
+    }
+
+    private static void averagesAreCut() {
+        QueryRunner x = pairs(1, 7, 2, 0, 1, 1, 2, 0);
+        x.item(x.aggregate(5, 1, false));
+        x.item(x.aggregate(5, x.op(1, x.constant(0, false), 1), false));
+        due.answers("towards 0", x, "2 -2");
+        QueryRunner y = pairs(1, 7, 2, 0);
+        y.item(y.aggregate(5, 1, false));
+        y.item(y.aggregate(5, y.op(1, y.constant(0, false), 1), false));
+        due.answers("halves towards 0", y, "3 -3");
+    }
+
+    private static void groupsInOrderOfFirstRows() {
+        QueryRunner x = pairs(3, 1, NULL, 2, 1, 3, 3, 4, NULL, 5, 0, 6, 1, 7);
+        x.group(0);
+        x.item(0);
+        x.item(x.aggregate(2, 1, false));
+        x.item(x.aggregate(0, 1, false));
+        due.answers("groups", x, "3 5 2", "- 7 2", "1 10 2", "0 6 1");
+    }
+
+    private static void severalGroups() {
+        QueryRunner x = pairs(1, 1, 1, 2, 2, 1, 1, 1, NULL, 1, 1, NULL, NULL, 1);
+        x.group(0);
+        x.group(1);
+        x.item(1);
+        x.item(0);
+        x.item(x.aggregate(0, 0, false));
+        due.answers("two groups", x, "1 1 2", "2 1 1", "1 2 1", "1 - 2", "- 1 1");
+        x.group(x.op(0, 0, 1));
+        x.group(x.constant(7, false));
+        due.answers("four groups", x, "1 1 2", "2 1 1", "1 2 1", "1 - 2", "- 1 1");
+        QueryRunner y = pairs(0, NULL, NULL, 0);
+        y.group(0);
+        y.group(1);
+        y.item(y.aggregate(0, 0, false));
+        due.answers("which of them is NULL matters", y, "1", "1");
+        QueryRunner z = pairs(5, 1, 6, 1);
+        z.group(1);
+        z.item(1);
+        due.answers("groups without aggregates", z, "1");
+    }
+
+    private static void groupsOfNoRows() {
+        QueryRunner x = pairs();
+        x.group(0);
+        x.item(x.aggregate(0, 0, false));
+        due.answers("no rows, no groups", x);
+    }
+
+    private static void partsLikeGroups() {
+        QueryRunner x = pairs(1, 9, 2, 9, 1, 8);
+        int sum = x.op(0, 0, x.constant(1, false));
+        x.group(sum);
+        int again = x.op(0, x.column(0, 0), x.constant(1, false));
+        x.item(x.op(2, again, x.aggregate(0, 0, false)));
+        due.answers("put together just like a group", x, "4", "3");
+        x.item(x.op(0, x.constant(1, false), 0));
+        due.ends("another way round", x, -13);
+        QueryRunner y = pairs(1, 9, 2, 9, 1, 8);
+        y.group(y.op(0, 0, y.constant(1, false)));
+        y.item(y.op(0, 0, y.constant(2, false)));
+        due.ends("another constant", y, -13);
+        QueryRunner z = pairs(1, 9, 2, 9, 1, 8);
+        z.group(z.op(0, 0, z.constant(1, false)));
+        z.item(z.op(1, 0, z.constant(1, false)));
+        due.ends("another operator", z, -13);
+        QueryRunner n = pairs(1, 9, 2, 9, 1, 8);
+        n.group(n.op(0, 0, n.constant(3, true)));
+        n.item(n.op(0, 0, n.constant(4, true)));
+        due.answers("NULL is NULL", n, "-");
+        n.item(n.op(0, 0, n.constant(0, false)));
+        due.ends("NULL is not 0", n, -13);
+    }
+
+    private static void having() {
+        QueryRunner x = pairs(1, 5, 2, NULL, 3, 1, 1, 6);
+        x.group(0);
+        int sum = x.aggregate(2, 1, false);
+        x.item(0);
+        x.item(sum);
+        x.condition(1, x.op(7, x.constant(0, false), sum));
+        due.answers("TRUE alone stays", x, "1 11", "3 1");
+        x.condition(1, x.op(5, 0, x.constant(2, false)));
+        due.answers("HAVING of a group", x, "2 -");
+        x.condition(1, x.op(5, 1, 1));
+        due.ends("HAVING of a column that is no group", x, -13);
+        x.condition(1, x.op(12, x.op(3, 0, x.constant(0, false)), 0));
+        due.ends("HAVING goes wrong", x, -20);
+    }
+
+    private static void havingMakesOneGroup() {
+        QueryRunner x = pairs(1, 5, 2, 6);
+        int one = x.constant(1, false);
+        x.item(one);
+        due.answers("not grouped", x, "1", "1");
+        x.condition(1, x.op(5, one, one));
+        due.answers("grouped by its having", x, "1");
+        x.condition(1, x.op(5, one, x.aggregate(0, 0, false)));
+        due.answers("having of an aggregate", x);
+        x.item(0);
+        due.ends("a column in a query that is grouped by its having", x, -13);
+    }
+
+    private static void countLooksAtNothing() {
+        QueryRunner x = pairs(1, 0, 2, 0);
+        x.item(x.aggregate(0, x.op(3, 0, 1), true));
+        due.answers("how many rows", x, "2");
+        QueryRunner y = pairs(1, 0, 2, 0);
+        y.item(y.aggregate(1, y.op(3, 0, 1), false));
+        due.ends("how many that are not NULL", y, -20);
+        QueryRunner z = pairs(1, 0);
+        z.item(z.aggregate(0, z.column(1, 0), false));
+        due.ends("all that it is put together of", z, -11);
+    }
+
+    private static void sumsOnTheirWay() {
+        for (int kind : new int[] {2, 5}) {
+            QueryRunner x = pairs(1, TRILLION, 2, 1, 3, -TRILLION);
+            int thousand = x.constant(1000, false);
+            x.item(x.aggregate(kind, x.op(2, 1, thousand), false));
+            due.ends("above on its way, aggregate " + kind, x, -21);
+            QueryRunner y = pairs(1, TRILLION, 2, -TRILLION, 3, 1);
+            y.item(y.aggregate(kind, y.op(2, 1, y.constant(1000, false)), false));
+            due.answers("at the limit on its way, aggregate " + kind, y, kind == 2 ? "1000" : "333");
+            QueryRunner z = pairs(1, -TRILLION, 2, -1, 3, TRILLION);
+            z.item(z.aggregate(kind, z.op(2, 1, z.constant(1000, false)), false));
+            due.ends("below on its way, aggregate " + kind, z, -21);
+        }
+        QueryRunner x = pairs(1, TRILLION, 2, TRILLION);
+        int huge = x.op(2, 1, x.constant(1000, false));
+        x.item(x.aggregate(1, huge, false));
+        x.item(x.aggregate(3, huge, false));
+        x.item(x.aggregate(4, huge, false));
+        due.answers("no sum, nothing wrong", x, "2 1000000000000000 1000000000000000");
+    }
+
+    private static void sumsOfDistinct() {
+        QueryRunner x = pairs(1, TRILLION, 2, TRILLION);
+        int huge = x.op(2, 1, x.constant(1000, false));
+        x.item(x.aggregate(2, huge, true));
+        x.item(x.aggregate(5, huge, true));
+        due.answers("once", x, "1000000000000000 1000000000000000");
+        x.item(x.aggregate(2, huge, false));
+        due.ends("twice", x, -21);
+    }
+
+    private static void whatIsOfAggregatesComesRowByRow() {
+        QueryRunner x = pairs(0, TRILLION, 1, 1);
+        int huge = x.op(2, 1, x.constant(1001, false));
+        int divided = x.op(3, 1, 0);
+        x.item(x.aggregate(2, huge, false));
+        x.group(divided);
+        due.ends("groups before aggregates", x, -20);
+        QueryRunner y = pairs(1, TRILLION, 0, 1);
+        y.item(y.aggregate(2, y.op(2, 1, y.constant(1001, false)), false));
+        y.group(y.op(3, 1, 0));
+        due.ends("the first row's aggregates before the second row's groups", y, -21);
+        QueryRunner z = pairs(1, 1, 1, 0);
+        z.group(0);
+        z.item(z.op(3, z.constant(1, false), z.constant(0, false)));
+        z.item(z.aggregate(2, z.op(2, z.op(1, z.constant(1, false), 1),
+                z.op(2, z.constant(TRILLION, false), z.constant(1001, false))), false));
+        due.ends("all rows before the first group's items", z, -21);
+    }
+
+    private static void aggregatesByTheirNumbers() {
+        QueryRunner x = pairs(0, TRILLION);
+        int ofHuge = x.aggregate(4, x.op(2, 1, x.constant(1001, false)), false);
+        int ofDivided = x.aggregate(4, x.op(3, 1, 0), false);
+        x.item(ofDivided);
+        x.item(ofHuge);
+        due.ends("by their numbers, not by items", x, -21);
+        QueryRunner y = pairs(0, TRILLION);
+        int divided = y.aggregate(4, y.op(3, 1, 0), false);
+        int huge = y.aggregate(4, y.op(2, 1, y.constant(1001, false)), false);
+        y.item(huge);
+        y.condition(1, y.op(12, divided, 0));
+        due.ends("those of having too", y, -20);
+    }
+
+    private static void unusedAggregates() {
+        QueryRunner x = pairs(0, 5);
+        x.aggregate(2, x.op(3, 1, 0), false);
+        x.item(x.aggregate(2, 1, false));
+        x.item(1);
+        due.ends("a column beside an aggregate", x, -13);
+        QueryRunner y = pairs(0, 5);
+        y.aggregate(2, y.op(3, 1, 0), false);
+        y.item(y.aggregate(2, 1, false));
+        due.answers("an aggregate that is not in use", y, "5");
+        QueryRunner z = pairs(0, 5);
+        z.aggregate(2, z.column(2, 3), false);
+        z.item(1);
+        due.answers("not in use, not grouped", z, "5");
+    }
+
+    // Only what aggregates are of is worked out row by row; their results are, where an expression has them.
+    private static void sumsComeBehindAllRows() {
+        QueryRunner x = pairs(1, TRILLION, 1, TRILLION, 0, 5);
+        int huge = x.aggregate(2, x.op(2, 1, x.constant(1000, false)), false);
+        x.item(huge);
+        x.item(x.aggregate(4, x.op(3, 1, 0), false));
+        due.ends("a later row's aggregate first", x, -20);
+        QueryRunner y = pairs(1, TRILLION, 1, TRILLION, 2, 5);
+        int sum = y.aggregate(2, y.op(2, 1, y.constant(1000, false)), false);
+        int two = y.constant(2, false);
+        y.group(0);
+        y.item(sum);
+        y.condition(1, y.op(5, 0, two));
+        due.answers("a sum of a group that HAVING leaves out", y, "5000");
+        y.condition(1, y.op(9, y.op(5, 0, two), y.op(7, two, sum)));
+        due.answers("a sum that HAVING does not come to", y, "5000");
+        y.condition(1, y.op(9, y.op(7, two, sum), y.op(5, 0, two)));
+        due.ends("a sum that HAVING comes to", y, -21);
+    }
+
+    private static void manyGroups() {
+        QueryRunner x = new QueryRunner();
+        x.table(1);
+        for (int i = 0; i < 8; i++) {
+            x.insert(0, i, 0, 0, 0, 0);
+        }
+        for (int i = 0; i < 3; i++) {
+            x.source(0, 0, -1);
+            x.group(x.column(i, 0));
+        }
+        int eight = x.constant(8, false);
+        int code = x.op(0, x.op(2, x.op(0, x.op(2, 0, eight), 1), eight), 2);
+        x.item(code);
+        due.ends("the 201st group", x, -15);
+        x.condition(1, x.op(7, code, x.constant(200, false)));
+        due.is("200 of 512 groups", x.run(), 200);
+        due.is("the last", x.cell(199, 0), 199);
+        x.condition(1, x.op(7, x.constant(311, false), code));
+        due.is("the last 200 of 512 groups", x.run(), 200);
+        due.is("the first of them", x.cell(0, 0), 312);
+        x.condition(1, x.op(8, code, x.constant(200, false)));
+        x.shape(true, 1, 0);
+        due.ends("201, before any is left out", x, -15);
+        // The items of the 201st are not worked out, those of the 200th are.
+        x.item(x.op(3, code, x.op(1, code, x.constant(200, false))));
+        due.ends("the 201st group's items", x, -15);
+        x.item(x.op(3, code, x.op(1, code, x.constant(199, false))));
+        due.ends("the 200th group's items", x, -20);
+    }
+}
