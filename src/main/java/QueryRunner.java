@@ -265,7 +265,6 @@ public final class QueryRunner {
             outcome = runner.giveGroups();
         }
         if (outcome != DONE) {
-            answer.clear();
             return outcome;
         }
         answer.finish(query);
@@ -587,7 +586,9 @@ public final class QueryRunner {
         final int[] at = new int[MOST_SOURCES];
         // Made by the first grouped run alone, since it is by far the largest part of an object.
         Groups groups;
+        // What was worked out last, and the first of its two.
         long number;
+        private long left;
 
         Evaluator(Tables tables, Expressions expressions, Query query) {
             this.tables = tables;
@@ -611,7 +612,8 @@ public final class QueryRunner {
                 case AGGREGATE:
                     return ofGroup((int) expressions.detail[e]);
                 default:
-                    return arithmetic(e, depth);
+                    int state = operands(e, depth);
+                    return state == NUMBER ? calculate(expressions.kind[e], left, number) : state;
             }
         }
 
@@ -631,7 +633,8 @@ public final class QueryRunner {
                 int inner = value(expressions.first[e], depth + 1);
                 return inner < 0 ? inner : inner == NULL ? TRUE : FALSE;
             }
-            return comparison(e, depth);
+            int state = operands(e, depth);
+            return state < 0 ? state : state == NULL ? UNSURE : compares(kind, left, number) ? TRUE : FALSE;
         }
 
         private int lookUp(int bit) {
@@ -658,19 +661,23 @@ public final class QueryRunner {
             return state;
         }
 
-        private int arithmetic(int e, int depth) {
-            int left = value(expressions.first[e], depth + 1);
+        // The first one's number is kept behind the second one's work, which may come through here itself.
+        private int operands(int e, int depth) {
+            int first = value(expressions.first[e], depth + 1);
             long x = number;
-            if (left < 0) {
-                return left;
+            if (first < 0) {
+                return first;
             }
-            int right = value(expressions.second[e], depth + 1);
-            long y = number;
-            if (right < 0) {
-                return right;
+            int second = value(expressions.second[e], depth + 1);
+            if (second < 0) {
+                return second;
             }
-            number = 0;
-            return left == NULL || right == NULL ? NULL : calculate(expressions.kind[e], x, y);
+            if (first == NULL || second == NULL) {
+                number = 0;
+                return NULL;
+            }
+            left = x;
+            return NUMBER;
         }
 
         private int calculate(int kind, long x, long y) {
@@ -702,43 +709,30 @@ public final class QueryRunner {
             return NUMBER;
         }
 
-        private int comparison(int e, int depth) {
-            int left = value(expressions.first[e], depth + 1);
-            long x = number;
-            if (left < 0) {
-                return left;
-            }
-            int right = value(expressions.second[e], depth + 1);
-            long y = number;
-            if (right < 0) {
-                return right;
-            }
-            if (left == NULL || right == NULL) {
-                return UNSURE;
-            }
-            switch (expressions.kind[e]) {
+        private static boolean compares(int kind, long x, long y) {
+            switch (kind) {
                 case EQUAL:
-                    return x == y ? TRUE : FALSE;
+                    return x == y;
                 case NOT_EQUAL:
-                    return x != y ? TRUE : FALSE;
+                    return x != y;
                 case LESS:
-                    return x < y ? TRUE : FALSE;
+                    return x < y;
                 default:
-                    return x <= y ? TRUE : FALSE;
+                    return x <= y;
             }
         }
 
         private int junction(int e, int depth) {
             int settling = expressions.kind[e] == AND ? FALSE : TRUE;
-            int left = truth(expressions.first[e], depth + 1);
-            if (left < 0 || left == settling) {
-                return left;
+            int first = truth(expressions.first[e], depth + 1);
+            if (first < 0 || first == settling) {
+                return first;
             }
-            int right = truth(expressions.second[e], depth + 1);
-            if (right < 0 || right == settling) {
-                return right;
+            int second = truth(expressions.second[e], depth + 1);
+            if (second < 0 || second == settling) {
+                return second;
             }
-            return left == UNSURE ? UNSURE : right;
+            return first == UNSURE ? UNSURE : second;
         }
     }
 
@@ -868,7 +862,6 @@ public final class QueryRunner {
 
         private void openGroup(int group) {
             firstRow[group] = NONE;
-            lastRow[group] = NONE;
             groupCount = group + 1;
         }
 
@@ -932,9 +925,6 @@ public final class QueryRunner {
             }
             isGrouped = checker.isGrouped();
             usedAggregates = checker.lateAggregates();
-            for (int i = 0; i < evaluator.at.length; i++) {
-                evaluator.at[i] = NONE;
-            }
             if (isGrouped) {
                 if (evaluator.groups == null) {
                     evaluator.groups = new Groups(expressions);
@@ -1042,6 +1032,7 @@ public final class QueryRunner {
         }
     }
 
+    /** The rows that a run gives; they are an answer once it has been finished. */
     private static final class Answer {
         int items;
         int shown;

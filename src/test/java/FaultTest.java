@@ -168,17 +168,8 @@ public final class FaultTest {
     }
 
     private static void tooManyRows() {
-        QueryRunner x = new QueryRunner();
-        x.table(1);
-        for (int i = 0; i < 8; i++) {
-            x.insert(0, i, 0, 0, 0, 0);
-        }
-        for (int i = 0; i < 3; i++) {
-            x.source(0, 0, -1);
-            x.column(i, 0);
-        }
-        int eight = x.constant(8, false);
-        int code = x.op(0, x.op(2, x.op(0, x.op(2, 0, eight), 1), eight), 2);
+        QueryRunner x = Given.manyRows();
+        int code = Given.CODE;
         int last = x.constant(199, false);
         x.item(code);
         due.ends("512 rows", x, -15);
@@ -195,13 +186,9 @@ public final class FaultTest {
         due.ends("the items of the 201st are not worked out", x, -15);
         x.item(x.op(3, code, x.op(1, code, last)));
         due.ends("those of the 200th are", x, -20);
-        x.fresh();
-        for (int i = 0; i < 3; i++) {
-            x.source(0, 0, -1);
-            x.column(i, 0);
-        }
-        x.item(x.aggregate(0, 0, false));
-        due.answers("512 rows in one group", x, "512");
+        QueryRunner y = Given.manyRows();
+        y.item(y.aggregate(0, 0, false));
+        due.answers("512 rows in one group", y, "512");
     }
 
     private static void noAnswerBehindAFault() {

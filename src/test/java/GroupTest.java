@@ -2,12 +2,14 @@
 public final class GroupTest {
     private static final Due due = new Due("GroupTest");
     private static final long TRILLION = 1000000000000L;
+    private static final long NULL = Given.NULL;
 
     public static void main(String[] args) {
         aggregatesOfAll();
         aggregatesOfNone();
         aggregatesOfNulls();
         aggregatesOfDistinct();
+        eightAggregates();
         averagesAreCut();
         groupsInOrderOfFirstRows();
         severalGroups();
@@ -26,20 +28,8 @@ public final class GroupTest {
         due.end();
     }
 
-    private static final long NULL = Long.MIN_VALUE;
-
-    // A table of pairs; expressions 0 and 1 are its columns.
     private static QueryRunner pairs(long... values) {
-        QueryRunner x = new QueryRunner();
-        x.table(2);
-        for (int i = 0; i + 1 < values.length; i += 2) {
-            int nulls = (values[i] == NULL ? 1 : 0) + (values[i + 1] == NULL ? 2 : 0);
-            x.insert(0, values[i], values[i + 1], 0, 0, nulls);
-        }
-        x.source(0, 0, -1);
-        x.column(0, 0);
-        x.column(0, 1);
-        return x;
+        return Given.pairs(values);
     }
 
     private static void allAggregates(QueryRunner x, int e, boolean distinct) {
@@ -76,6 +66,22 @@ public final class GroupTest {
         QueryRunner x = pairs(1, 4, 2, NULL, 3, -2, 4, 4, 5, 9, 6, 4, 7, NULL, 8, 9);
         allAggregates(x, 1, true);
         due.answers("equal values once", x, "8 3 11 -2 9 3");
+    }
+
+    private static void eightAggregates() {
+        QueryRunner x = pairs(1, 10, 2, NULL, 1, 30, 1, 30);
+        int hundred = x.constant(100, false);
+        x.group(0);
+        int[] e = new int[8];
+        for (int i = 0; i < 8; i++) {
+            e[i] = x.aggregate(i < 6 ? i : i - 5, 1, i >= 6);
+        }
+        for (int i = 0; i < 6; i++) {
+            x.item(i < 2 ? x.op(0, x.op(2, e[i + 6], hundred), e[i]) : e[i]);
+        }
+        due.answers("eight at once", x, "203 4003 70 10 30 23", "1 - - - - -");
+        x.condition(1, x.op(12, e[7], 0));
+        due.answers("the last alone in having", x, "1 - - - - -");
     }
 
     private static void averagesAreCut() {
@@ -205,6 +211,9 @@ public final class GroupTest {
             QueryRunner z = pairs(1, -TRILLION, 2, -1, 3, TRILLION);
             z.item(z.aggregate(kind, z.op(2, 1, z.constant(1000, false)), false));
             due.ends("below on its way, aggregate " + kind, z, -21);
+            QueryRunner w = pairs(1, -TRILLION, 2, TRILLION, 3, -1);
+            w.item(w.aggregate(kind, w.op(2, 1, w.constant(1000, false)), false));
+            due.answers("at the lower limit on its way, aggregate " + kind, w, kind == 2 ? "-1000" : "-333");
         }
         QueryRunner x = pairs(1, TRILLION, 2, TRILLION);
         int huge = x.op(2, 1, x.constant(1000, false));
@@ -295,17 +304,11 @@ public final class GroupTest {
     }
 
     private static void manyGroups() {
-        QueryRunner x = new QueryRunner();
-        x.table(1);
-        for (int i = 0; i < 8; i++) {
-            x.insert(0, i, 0, 0, 0, 0);
-        }
+        QueryRunner x = Given.manyRows();
+        int code = Given.CODE;
         for (int i = 0; i < 3; i++) {
-            x.source(0, 0, -1);
-            x.group(x.column(i, 0));
+            x.group(i);
         }
-        int eight = x.constant(8, false);
-        int code = x.op(0, x.op(2, x.op(0, x.op(2, 0, eight), 1), eight), 2);
         x.item(code);
         due.ends("the 201st group", x, -15);
         x.condition(1, x.op(7, code, x.constant(200, false)));

@@ -1,7 +1,7 @@
 /** Promises 13 to 15: what is the same left out, orders, skipped and kept rows. */
 public final class ShapeTest {
     private static final Due due = new Due("ShapeTest");
-    private static final long NULL = Long.MIN_VALUE;
+    private static final long NULL = Given.NULL;
 
     public static void main(String[] args) {
         leftOut();
@@ -15,15 +15,9 @@ public final class ShapeTest {
     }
 
     private static QueryRunner pairs(long... values) {
-        QueryRunner x = new QueryRunner();
-        x.table(2);
-        for (int i = 0; i + 1 < values.length; i += 2) {
-            int nulls = (values[i] == NULL ? 1 : 0) + (values[i + 1] == NULL ? 2 : 0);
-            x.insert(0, values[i], values[i + 1], 0, 0, nulls);
-        }
-        x.source(0, 0, -1);
-        x.item(x.column(0, 0));
-        x.item(x.column(0, 1));
+        QueryRunner x = Given.pairs(values);
+        x.item(0);
+        x.item(1);
         return x;
     }
 
