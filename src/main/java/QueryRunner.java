@@ -656,9 +656,8 @@ public final class QueryRunner {
             if (groups == null) {
                 return NULL;
             }
-            int state = groups.resultOf(slot);
-            number = groups.results[slot];
-            return state;
+            number = groups.resultOf(slot);
+            return groups.hasResult(slot) ? NUMBER : NULL;
         }
 
         // The first one's number is kept behind the second one's work, which may come through here itself.
@@ -736,7 +735,7 @@ public final class QueryRunner {
         }
     }
 
-    /** The rows of a grouped run, chained group by group, with what its aggregates are of. */
+    /** The groups of a run with what their aggregates have come to; rows are chained, for DISTINCT to look back. */
     private static final class Groups {
         private final Expressions expressions;
         int groupCount;
@@ -747,12 +746,12 @@ public final class QueryRunner {
         private final int[] lastRow = new int[MOST_JOINED_ROWS];
         private final int[] nextRow = new int[MOST_JOINED_ROWS];
         private final int[] rowAt = new int[MOST_JOINED_ROWS];
+        // What the aggregates are of, row by row, with a bit for each aggregate that counts the row.
         private final long[] numbers = new long[MOST_JOINED_ROWS * MOST_AGGREGATES];
-        // A bit for each aggregate that passes over the row.
-        private final int[] passedBits = new int[MOST_JOINED_ROWS];
-        final long[] results = new long[MOST_AGGREGATES];
-        private final int[] resultStates = new int[MOST_AGGREGATES];
-        private int resultBits;
+        private final int[] countedBits = new int[MOST_JOINED_ROWS];
+        // Group by group: how many the aggregates have counted, and their sum, least or greatest so far.
+        private final int[] counts = new int[MOST_JOINED_ROWS * MOST_AGGREGATES];
+        private final long[] totals = new long[MOST_JOINED_ROWS * MOST_AGGREGATES];
         private int current;
 
         Groups(Expressions expressions) {
@@ -774,7 +773,7 @@ public final class QueryRunner {
         /** The next row stands behind all others, and its keys where those of the next group would. */
         void startRow(int[] at) {
             rowAt[rowCount] = pack(at);
-            passedBits[rowCount] = 0;
+            countedBits[rowCount] = 0;
             keyNullBits[groupCount] = 0;
         }
 
@@ -801,11 +800,21 @@ public final class QueryRunner {
             current = group;
         }
 
-        void setNumber(int slot, int state, long number) {
-            numbers[rowCount * MOST_AGGREGATES + slot] = number;
+        /** What an aggregate is of in the row goes into its group at once, so that a sum goes wrong at this row. */
+        int takeNumber(int slot, int state, long number) {
             if (state == NULL || expressions.aggregateDistinct[slot] && wasCounted(slot, number)) {
-                passedBits[rowCount] |= 1 << slot;
+                return DONE;
             }
+            numbers[rowCount * MOST_AGGREGATES + slot] = number;
+            countedBits[rowCount] |= 1 << slot;
+            int place = current * MOST_AGGREGATES + slot;
+            long total = counts[place] == 0 ? number : combine(expressions.aggregateKind[slot], totals[place], number);
+            if (total < -MOST_RESULT || total > MOST_RESULT) {
+                return TOO_LARGE;
+            }
+            counts[place]++;
+            totals[place] = total;
+            return DONE;
         }
 
         void endRow() {
@@ -815,7 +824,6 @@ public final class QueryRunner {
         /** Stands at a group: the sources at its first row. */
         void enter(int group, int[] at) {
             current = group;
-            resultBits = 0;
             int row = firstRow[group];
             int packed = row == NONE ? 0 : rowAt[row];
             for (int i = 0; i < at.length; i++) {
@@ -823,45 +831,45 @@ public final class QueryRunner {
             }
         }
 
-        int resultOf(int slot) {
-            if ((resultBits >> slot & 1) == 0) {
-                resultStates[slot] = workOut(slot);
-                resultBits |= 1 << slot;
-            }
-            return resultStates[slot];
+        boolean hasResult(int slot) {
+            int kind = expressions.aggregateKind[slot];
+            return kind == COUNT_ROWS || kind == COUNT_VALUES || counts[current * MOST_AGGREGATES + slot] != 0;
         }
 
-        private int workOut(int slot) {
-            int kind = expressions.aggregateKind[slot];
-            boolean isCounted = kind == COUNT_ROWS || kind == COUNT_VALUES;
-            boolean isSummed = kind == SUM || kind == AVERAGE;
-            int count = 0;
-            long result = 0;
-            int row = firstRow[current];
-            for (int i = 0; i < rowCount && row != NONE; i++) {
-                if ((passedBits[row] >> slot & 1) == 0) {
-                    long number = numbers[row * MOST_AGGREGATES + slot];
-                    count++;
-                    if (isSummed) {
-                        result += number;
-                    } else if (count == 1 || kind == LEAST && number < result || kind == GREATEST && number > result) {
-                        result = number;
-                    }
-                    if (isSummed && (result < -MOST_RESULT || result > MOST_RESULT)) {
-                        return TOO_LARGE;
-                    }
-                }
-                row = nextRow[row];
+        long resultOf(int slot) {
+            int count = counts[current * MOST_AGGREGATES + slot];
+            long total = totals[current * MOST_AGGREGATES + slot];
+            switch (expressions.aggregateKind[slot]) {
+                case COUNT_ROWS:
+                case COUNT_VALUES:
+                    return count;
+                case AVERAGE:
+                    return count == 0 ? 0 : total / count;
+                default:
+                    return total;
             }
-            if (kind == AVERAGE && count != 0) {
-                result /= count;
+        }
+
+        private static long combine(int kind, long total, long number) {
+            switch (kind) {
+                case SUM:
+                case AVERAGE:
+                    return total + number;
+                case LEAST:
+                    return Math.min(total, number);
+                case GREATEST:
+                    return Math.max(total, number);
+                default:
+                    return total;
             }
-            results[slot] = isCounted ? count : result;
-            return isCounted || count != 0 ? NUMBER : NULL;
         }
 
         private void openGroup(int group) {
             firstRow[group] = NONE;
+            for (int slot = 0; slot < MOST_AGGREGATES; slot++) {
+                counts[group * MOST_AGGREGATES + slot] = 0;
+                totals[group * MOST_AGGREGATES + slot] = 0;
+            }
             groupCount = group + 1;
         }
 
@@ -880,8 +888,8 @@ public final class QueryRunner {
 
         private boolean wasCounted(int slot, long number) {
             int row = firstRow[current];
-            for (int i = 0; i < rowCount && row != NONE && row != rowCount; i++) {
-                if ((passedBits[row] >> slot & 1) == 0 && numbers[row * MOST_AGGREGATES + slot] == number) {
+            for (int i = 0; i < rowCount && row != NONE; i++) {
+                if ((countedBits[row] >> slot & 1) != 0 && numbers[row * MOST_AGGREGATES + slot] == number) {
                     return true;
                 }
                 row = nextRow[row];
@@ -1019,16 +1027,21 @@ public final class QueryRunner {
             }
             groups.placeRow(query.groupCount);
             for (int slot = 0; slot < expressions.aggregateCount; slot++) {
-                if ((usedAggregates >> slot & 1) != 0 && expressions.aggregateKind[slot] != COUNT_ROWS) {
-                    int state = evaluator.value(expressions.aggregateOf[slot], 0);
-                    if (state < 0) {
-                        return state;
-                    }
-                    groups.setNumber(slot, state, evaluator.number);
+                int outcome = (usedAggregates >> slot & 1) == 0 ? DONE : aggregateRow(groups, slot);
+                if (outcome != DONE) {
+                    return outcome;
                 }
             }
             groups.endRow();
             return DONE;
+        }
+
+        private int aggregateRow(Groups groups, int slot) {
+            if (expressions.aggregateKind[slot] == COUNT_ROWS) {
+                return groups.takeNumber(slot, NUMBER, 0);
+            }
+            int state = evaluator.value(expressions.aggregateOf[slot], 0);
+            return state < 0 ? state : groups.takeNumber(slot, state, evaluator.number);
         }
     }
 

@@ -23,7 +23,10 @@ public final class GroupTest {
         whatIsOfAggregatesComesRowByRow();
         aggregatesByTheirNumbers();
         unusedAggregates();
-        sumsComeBehindAllRows();
+        sumsGoWrongAtTheirRow();
+        sumsGoWrongInTheirTurn();
+        sumsThatNothingComesTo();
+        sumsOfLaterRuns();
         manyGroups();
         due.end();
     }
@@ -283,24 +286,89 @@ public final class GroupTest {
         due.answers("not in use, not grouped", z, "5");
     }
 
-    // Only what aggregates are of is worked out row by row; their results are, where an expression has them.
-    private static void sumsComeBehindAllRows() {
-        QueryRunner x = pairs(1, TRILLION, 1, TRILLION, 0, 5);
-        int huge = x.aggregate(2, x.op(2, 1, x.constant(1000, false)), false);
-        x.item(huge);
+    // A thousand times the second column, summed; the second row takes the sum too far.
+    private static int hugeSum(QueryRunner x, int kind) {
+        return x.aggregate(kind, x.op(2, 1, x.constant(1000, false)), false);
+    }
+
+    private static void sumsGoWrongAtTheirRow() {
+        for (int kind : new int[] {2, 5}) {
+            for (long sign : new long[] {1, -1}) {
+                String told = ", aggregate " + kind + ", sign " + sign;
+                QueryRunner x = pairs(1, sign, 1, sign * TRILLION, 0, 5);
+                x.item(hugeSum(x, kind));
+                int divided = x.op(3, 1, 0);
+                x.item(x.aggregate(4, divided, false));
+                due.ends("before a later row's aggregate" + told, x, -21);
+                x.condition(0, x.op(6, divided, x.constant(7, false)));
+                due.ends("before a later row's WHERE" + told, x, -21);
+                x.group(x.op(4, 0, 0));
+                due.ends("before a later row's group" + told, x, -21);
+            }
+        }
+        QueryRunner y = pairs(1, 1, 1, TRILLION, 0, 5);
+        int one = y.constant(1, false);
+        y.source(0, 1, y.op(8, y.op(3, one, 0), one));
+        y.condition(0, y.op(5, y.column(1, 1), one));
+        y.item(hugeSum(y, 2));
+        due.ends("before a later row's ON", y, -21);
+        QueryRunner z = pairs(1, 1, 0, TRILLION, 1, 5);
+        z.item(hugeSum(z, 2));
+        z.condition(0, z.op(8, z.op(3, 1, 0), z.constant(TRILLION, false)));
+        due.ends("behind its own row's WHERE", z, -20);
+    }
+
+    private static void sumsGoWrongInTheirTurn() {
+        QueryRunner x = pairs(1, 1, 0, TRILLION);
+        x.item(hugeSum(x, 2));
         x.item(x.aggregate(4, x.op(3, 1, 0), false));
-        due.ends("a later row's aggregate first", x, -20);
-        QueryRunner y = pairs(1, TRILLION, 1, TRILLION, 2, 5);
-        int sum = y.aggregate(2, y.op(2, 1, y.constant(1000, false)), false);
-        int two = y.constant(2, false);
-        y.group(0);
-        y.item(sum);
-        y.condition(1, y.op(5, 0, two));
-        due.answers("a sum of a group that HAVING leaves out", y, "5000");
-        y.condition(1, y.op(9, y.op(5, 0, two), y.op(7, two, sum)));
-        due.answers("a sum that HAVING does not come to", y, "5000");
-        y.condition(1, y.op(9, y.op(7, two, sum), y.op(5, 0, two)));
-        due.ends("a sum that HAVING comes to", y, -21);
+        due.ends("before what the next aggregate is of", x, -21);
+        QueryRunner y = pairs(1, 1, 0, TRILLION);
+        int divided = y.aggregate(4, y.op(3, 1, 0), false);
+        y.item(hugeSum(y, 2));
+        y.item(divided);
+        due.ends("behind what an earlier aggregate is of", y, -20);
+        QueryRunner z = pairs(1, 1, 0, TRILLION);
+        z.item(hugeSum(z, 2));
+        z.group(z.op(4, z.constant(0, false), z.op(0, 0, 0)));
+        due.ends("behind its own row's groups", z, -20);
+        QueryRunner w = pairs(1, 1, 1, TRILLION);
+        w.item(w.op(3, w.constant(1, false), w.constant(0, false)));
+        w.item(hugeSum(w, 2));
+        due.ends("before all items", w, -21);
+    }
+
+    private static void sumsThatNothingComesTo() {
+        QueryRunner x = pairs(1, 1, 1, TRILLION, 2, 5);
+        int sum = hugeSum(x, 2);
+        int two = x.constant(2, false);
+        x.group(0);
+        x.item(0);
+        due.answers("a sum that is not in use", x, "1", "2");
+        x.condition(1, x.op(5, 0, two));
+        due.answers("nor in having", x, "2");
+        x.condition(1, x.op(9, x.op(5, 0, two), x.op(7, two, sum)));
+        due.ends("a sum that HAVING does not come to", x, -21);
+        x.condition(1, x.op(5, 0, two));
+        x.item(sum);
+        due.ends("a sum of a group that HAVING leaves out", x, -21);
+        x.condition(0, x.op(6, 1, x.constant(TRILLION, false)));
+        due.answers("without the row that takes it too far", x, "2 5000");
+    }
+
+    private static void sumsOfLaterRuns() {
+        QueryRunner x = pairs(1, 5, 2, TRILLION, 1, 7, 2, NULL);
+        x.group(0);
+        int huge = x.op(2, 1, x.constant(1000, false));
+        x.item(x.aggregate(2, huge, false));
+        x.item(x.aggregate(1, huge, true));
+        for (int i = 0; i < 3; i++) {
+            due.answers("nothing stays of an earlier run", x, "12000 2", "1000000000000000 1");
+        }
+        x.insert(0, 2, 1, 0, 0, 0);
+        due.ends("too far", x, -21);
+        x.condition(0, x.op(5, 0, x.constant(1, false)));
+        due.answers("nothing stays of a run that went wrong", x, "12000 2");
     }
 
     private static void manyGroups() {

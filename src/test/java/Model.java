@@ -419,15 +419,18 @@ final class Model {
             key.add(value(group, rows));
         }
         Map<Integer, Long> values = new TreeMap<>();
+        grouped.computeIfAbsent(key, k -> new ArrayList<>()).add(rows);
+        arguments.computeIfAbsent(key, k -> new ArrayList<>()).add(values);
+        currentGroup = key;
         Map<Integer, Expression> used = new TreeMap<>();
         for (Expression e : late()) {
             e.all().stream().filter(part -> part.kind.equals("aggregate")).forEach(part -> used.put(part.number, part));
         }
         for (Expression aggregate : used.values()) {
             values.put(aggregate.number, aggregate.op == 0 ? Long.valueOf(1) : value(aggregate.a, rows));
+            // Worked out behind each row for what may go wrong on its way.
+            aggregateValue(aggregate);
         }
-        grouped.computeIfAbsent(key, k -> new ArrayList<>()).add(rows);
-        arguments.computeIfAbsent(key, k -> new ArrayList<>()).add(values);
     }
 
     private void giveGroups() {

@@ -4,7 +4,7 @@ import java.util.TreeMap;
 
 /** Promises 1 to 18: chance runs of calls, each answered as the model of the document answers it. */
 public final class ModelTest {
-    private static final int RUNS = 6000;
+    private static final int RUNS = 8000;
     private static final int MOST_CALLS = 512;
     private static final long[] NUMBERS = {0, 0, 1, 1, 2, 2, 3, 5, 7, -1, -2, -3, 10, 1000, -1000, 1000000,
         33333333, 999999999999L, 1000000000000L, -1000000000000L};
@@ -34,10 +34,10 @@ public final class ModelTest {
             calls = 0;
             expressions = 0;
             tables = 0;
-            if (seed % 3 == 0) {
-                freeRun();
-            } else {
-                plannedRun(seed % 3 == 1);
+            switch (seed % 4) {
+                case 0 -> freeRun();
+                case 1 -> sumsRun();
+                default -> plannedRun(seed % 4 == 2);
             }
         }
         System.out.println("ModelTest: what runs answered below 10, and how often: " + outcomes.headMap(10));
@@ -148,6 +148,66 @@ public final class ModelTest {
         }
     }
 
+    // Groups with sums near the limit and divisions that go wrong in some rows, so that what comes first matters.
+    private void sumsRun() {
+        int count = 1 + below(2);
+        for (int t = 0; t < count; t++) {
+            widths[t] = 3;
+            table(3);
+            int rows = 2 + below(7);
+            for (int r = 0; r < rows; r++) {
+                long sign = chance(80) ? 1 : -1;
+                long large = chance(50) ? sign * (1 + below(3)) : sign * (chance(50) ? 1000000000000L : 499999999999L);
+                insert(t, below(3), large, chance(85) ? 1 + below(5) : 0, 0, chance(85) ? 0 : below(8));
+            }
+        }
+        while (calls < MOST_CALLS - 70) {
+            sumsQuery();
+        }
+    }
+
+    private void sumsQuery() {
+        fresh();
+        int sources = 1 + below(2);
+        for (int i = 0; i < 6; i++) {
+            column(i / 3 % sources, i % 3);
+        }
+        made("constant(1000)", x.constant(1000, false), model.constant(1000, false));
+        made("constant(1)", x.constant(1, false), model.constant(1, false));
+        for (int i = 0; i < 4; i++) {
+            op(chance(70) ? 2 : below(2), chance(70) ? below(2) * 3 + 1 : below(8), chance(70) ? 6 : below(8));
+        }
+        for (int i = 0; i < 3; i++) {
+            op(3 + below(2), below(12), chance(70) ? below(2) * 3 + 2 : 6 + below(2));
+        }
+        int plain = expressions;
+        int aggregates = 1 + below(4);
+        for (int i = 0; i < aggregates; i++) {
+            aggregate(chance(70) ? 2 + below(2) * 3 : below(6), chance(70) ? 8 + below(7) : below(plain));
+        }
+        int aggregated = expressions;
+        op(5 + below(4), chance(50) ? 12 + below(3) : below(8), below(8));
+        op(chance(30) ? 12 : 5 + below(4), plain + below(aggregates), chance(50) ? 6 : plain + below(aggregates));
+        for (int i = 0; i < sources; i++) {
+            int how = i == 0 || chance(50) ? 0 : 1 + below(2);
+            source(below(tables), how, how == 0 ? -1 : aggregated);
+        }
+        if (chance(40)) {
+            condition(0, aggregated);
+        }
+        if (chance(30)) {
+            condition(1, aggregated + 1);
+        }
+        if (chance(60)) {
+            group(chance(70) ? 0 : chance(50) ? 3 : 12 + below(3));
+        }
+        int items = 1 + below(aggregates);
+        for (int i = 0; i < items; i++) {
+            item(plain + below(aggregates));
+        }
+        run();
+    }
+
     private void operators(int count, int from) {
         for (int i = 0; i < count; i++) {
             op(chance(50) ? below(3) : below(5), below(expressions), chance(50) ? below(from) : below(expressions));
@@ -208,11 +268,10 @@ public final class ModelTest {
     }
 
     private void insert(int table) {
-        long a = number();
-        long b = number();
-        long c = number();
-        long d = number();
-        int nulls = chance(60) ? 0 : below(32);
+        insert(table, number(), number(), number(), number(), chance(60) ? 0 : below(32));
+    }
+
+    private void insert(int table, long a, long b, long c, long d, int nulls) {
         same("insert(" + table + ")", x.insert(table, a, b, c, d, nulls), model.insert(table, a, b, c, d, nulls));
     }
 

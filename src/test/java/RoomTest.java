@@ -3,8 +3,8 @@ import java.lang.management.ManagementFactory;
 /** All calls of a run share one room: what is made must stay small, however often a query is run. */
 public final class RoomTest {
     private static final Due due = new Due("RoomTest");
-    // A new object with its first grouped run, told in bytes: some 12,000 fields and elements.
-    private static final long MOST_BYTES = 120000;
+    // A new object with its first grouped run, told in bytes: some 20,000 fields and elements.
+    private static final long MOST_BYTES = 140000;
 
     public static void main(String[] args) {
         // The first time some classes of the machine are made, too.
