@@ -4,8 +4,12 @@ import java.util.TreeMap;
 
 /** Promises 1 to 18: chance runs of calls, each answered as the model of the document answers it. */
 public final class ModelTest {
-    private static final int RUNS = 8000;
+    private static final int RUNS = 20000;
+    // What later calls answer is free, so no object is used for more.
     private static final int MOST_CALLS = 512;
+    private static final int MOST_LOOKS = 12;
+    // More calls than any query below takes, with its runs and its looks.
+    private static final int QUERY_CALLS = 130;
     private static final long[] NUMBERS = {0, 0, 1, 1, 2, 2, 3, 5, 7, -1, -2, -3, 10, 1000, -1000, 1000000,
         33333333, 999999999999L, 1000000000000L, -1000000000000L};
 
@@ -39,6 +43,8 @@ public final class ModelTest {
                 case 1 -> sumsRun();
                 default -> plannedRun(seed % 4 == 2);
             }
+            lookAtTheLastAnswer();
+            due.is(told + ": at most 512 calls", calls <= MOST_CALLS, true);
         }
         System.out.println("ModelTest: what runs answered below 10, and how often: " + outcomes.headMap(10));
         for (int code : new int[] {-1, -11, -12, -13, -15, -20, -21, 0, 1, 2, 8, 64, 200}) {
@@ -70,7 +76,7 @@ public final class ModelTest {
 
     // Any call at any time.
     private void freeRun() {
-        while (calls < MOST_CALLS - 3) {
+        while (calls < MOST_CALLS - 3 - 2 * MOST_LOOKS) {
             switch (below(24)) {
                 case 0 -> table(below(6));
                 case 1, 2 -> insert(below(7) - 1);
@@ -90,7 +96,7 @@ public final class ModelTest {
                 case 18 -> order(below(8) - 1);
                 case 19 -> shape(below(1200) - 50, below(12) - 1);
                 case 20 -> run();
-                case 21 -> same("cell", x.cell(calls % 9 - 1, calls % 7 - 1), model.cell(calls % 9 - 1, calls % 7 - 1));
+                case 21 -> cell(below(9) - 1, below(7) - 1);
                 default -> look(below(12) - 1, below(8) - 1);
             }
         }
@@ -107,7 +113,7 @@ public final class ModelTest {
                 insert(t);
             }
         }
-        while (calls < MOST_CALLS - 70) {
+        while (calls < MOST_CALLS - QUERY_CALLS) {
             plannedQuery();
         }
     }
@@ -161,7 +167,7 @@ public final class ModelTest {
                 insert(t, below(3), large, chance(85) ? 1 + below(5) : 0, 0, chance(85) ? 0 : below(8));
             }
         }
-        while (calls < MOST_CALLS - 70) {
+        while (calls < MOST_CALLS - QUERY_CALLS) {
             sumsQuery();
         }
     }
@@ -336,16 +342,27 @@ public final class ModelTest {
         int want = model.run();
         outcomes.merge(want, 1, Integer::sum);
         same("run()", x.run(), want);
-        // All cells are looked at beyond the 512 calls that are told: they change nothing.
-        int rows = Math.max(0, want);
-        for (int row = 0; row <= rows; row++) {
-            for (int i = 0; i <= model.answer(1); i++) {
-                due.is(told + ", call " + calls + ", cell(" + row + ", " + i + ")", x.cell(row, i), model.cell(row, i));
-                due.is(told + ", call " + calls + ", isNull(" + row + ", " + i + ")",
-                        x.isNull(row, i), model.isNull(row, i));
+        same("answer(0)", x.answer(0), model.answer(0));
+        same("answer(1)", x.answer(1), model.answer(1));
+        int looks = Math.min(MOST_LOOKS, want < 1 ? 1 : want * model.answer(1));
+        for (int k = 0; k < looks; k++) {
+            cell(below(Math.max(1, want + 1)), below(model.answer(1) + 1));
+        }
+    }
+
+    // What is left of the calls, for the whole of the last answer or as much of it as there are calls.
+    private void lookAtTheLastAnswer() {
+        int start = below(1 + model.answer(0));
+        for (int row = start; row <= model.answer(0); row++) {
+            for (int i = 0; i < model.answer(1) && calls + 2 <= MOST_CALLS; i++) {
+                cell(row, i);
             }
         }
-        due.is(told + ", answer(1)", x.answer(1), model.answer(1));
+    }
+
+    private void cell(int row, int i) {
+        same("cell(" + row + ", " + i + ")", x.cell(row, i), model.cell(row, i));
+        same("isNull(" + row + ", " + i + ")", x.isNull(row, i) ? 1 : 0, model.isNull(row, i) ? 1 : 0);
     }
 
     private void look(int row, int i) {
