@@ -34,6 +34,7 @@ public final class PartsEdgesTest {
         fourOrders();
         keptWithin();
         skippedWithin();
+        shapesRefused();
         anotherShape();
         due.end();
     }
@@ -334,6 +335,26 @@ public final class PartsEdgesTest {
         due.is("skip 1000", x.shape(false, 1000, 1000), 1);
         due.answers("the most", x);
         due.is("an answer all the same", x.answer(1), 1);
+    }
+
+    private static void shapesRefused() {
+        due.says("Promise 14: a shape that is refused changes nothing, none of the three");
+        QueryRunner x = start();
+        x.source(0, 0, -1);
+        x.item(OTHER);
+        int[][] outside = {{-1, 1}, {1001, 1}, {0, -1}, {0, 1001}, {-1, -1}};
+        for (int[] pair : outside) {
+            due.is("keep " + pair[0] + ", skip " + pair[1], x.shape(true, pair[0], pair[1]), OUTSIDE);
+            due.answers("as at first", x, "5", "5");
+        }
+        x.shape(true, 1, 0);
+        for (int[] pair : outside) {
+            due.is("keep " + pair[0] + ", skip " + pair[1], x.shape(false, pair[0], pair[1]), OUTSIDE);
+            due.answers("as it was told", x, "5");
+        }
+        x.shape(false, 1, 1);
+        due.is("another", x.shape(true, 1001, 0), OUTSIDE);
+        due.answers("one skipped, one kept", x, "5");
     }
 
     private static void anotherShape() {

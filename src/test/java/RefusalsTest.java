@@ -173,7 +173,8 @@ public final class RefusalsTest {
                 refused("shape, skip", OUTSIDE, x -> x.shape(true, 1, -1))));
     }
 
-    // Tables, a query with something of each kind, and its answer.
+    // Tables, a query with something of each kind, and its answer: two groups have the same sum, so that all of the
+    // shape can be seen.
     private static QueryRunner builtObject() {
         QueryRunner x = new QueryRunner();
         x.table(2);
@@ -181,7 +182,7 @@ public final class RefusalsTest {
         x.insert(0, 3, 1, 0, 0, 0);
         x.insert(0, 1, 0, 0, 0, 2);
         x.insert(0, 3, 2, 0, 0, 0);
-        x.insert(0, 5, 2, 0, 0, 0);
+        x.insert(0, 5, 3, 0, 0, 0);
         x.insert(1, 4, 5, 6, 0, 0);
         x.column(0, 0);
         x.column(0, 1);
@@ -191,7 +192,7 @@ public final class RefusalsTest {
         x.source(0, 0, -1);
         x.condition(0, TRUTH);
         x.group(VALUE);
-        x.item(VALUE);
+        x.item(SUM);
         x.item(SUM);
         x.order(0, true);
         x.shape(true, 3, 1);
@@ -202,7 +203,7 @@ public final class RefusalsTest {
     private static void built() {
         due.says("REFUSALS on an object with a query and an answer");
         QueryRunner y = builtObject();
-        due.holds("its answer", y, "3 3", "1 -");
+        due.holds("its answer", y, "- -");
         int value = VALUE;
         int truth = TRUTH;
         int next = 5;
@@ -269,7 +270,8 @@ public final class RefusalsTest {
         x.column(0, 0);
         x.column(1, 0);
         x.aggregate(2, VALUE, false);
-        x.op(5, VALUE, VALUE);
+        x.op(7, 1, VALUE);
+        int where = x.op(11, x.op(12, VALUE, 0), 0);
         for (int i = 1; i < 8; i++) {
             x.aggregate(i % 6, 1, false);
         }
@@ -278,14 +280,14 @@ public final class RefusalsTest {
         }
         x.source(0, 0, -1);
         x.source(1, 0, -1);
-        x.source(1, 1, TRUTH);
-        x.condition(0, TRUTH);
+        x.source(1, 2, TRUTH);
+        x.condition(0, where);
         for (int i = 0; i < 4; i++) {
             x.group(VALUE);
         }
         x.item(VALUE);
         x.item(SUM);
-        for (int e = 5; e < 9; e++) {
+        for (int e = 6; e < 10; e++) {
             x.item(e);
         }
         for (int i = 0; i < 4; i++) {

@@ -641,6 +641,18 @@ public final class RunEdgesTest {
         due.ends("wrong", x, -20);
         x.condition(0, Given.always(x));
         due.answers("right again", x, "2 12 1", "1 12 2");
+        QueryRunner y = Given.numbers(1, 2, 2, 3, 3);
+        y.item(0);
+        y.order(0, true);
+        y.shape(true, 1, 1);
+        for (int i = 0; i < 3; i++) {
+            due.answers("again, with a shape", y, "2");
+        }
+        y.order(0, false);
+        due.is("the orders are still there", y.order(0, false), 3);
+        due.is("the items too", y.item(0), 1);
+        due.is("the sources too", y.source(0, 0, -1), 2);
+        due.is("the expressions too", y.fresh(), 1);
     }
 
     private static void oneQueryBehindAnother() {
